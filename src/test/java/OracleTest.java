@@ -10,6 +10,8 @@ import java.util.function.ToIntFunction;
 public final class OracleTest {
     private static final int RUNS = 1000;
     private static final int MOST_CALLS = 512;
+    /** A text that is too long is typed to its end, too. */
+    private static final int LONGEST_TURN = 160;
 
     private static int wrong = 0;
     private static final Map<String, Integer> ANSWERS = new HashMap<>();
@@ -691,7 +693,7 @@ public final class OracleTest {
         int n = 2 + dice.below(4);
         int k = 2 + dice.below(n == 5 ? 2 : 3);
         due("graph(" + n + ", " + k + ")", bench.graph(n, k), oracle.graph(n, k));
-        while (calls.size() < MOST_CALLS - 60 && wrong == 0) {
+        while (calls.size() < MOST_CALLS - LONGEST_TURN && wrong == 0) {
             change();
             if (dice.once(2)) {
                 move();

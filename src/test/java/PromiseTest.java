@@ -2,80 +2,7 @@ import java.util.ArrayList;
 import java.util.List;
 
 /** What each promise of the document asks, with the answers worked out by hand. */
-public final class PromiseTest {
-    private static final int NONE = -1;
-    private static final int FULL = -2;
-    private static final int[] WRONG = {-1, Integer.MIN_VALUE, Integer.MAX_VALUE};
-
-    private static int wrong = 0;
-
-    private static void due(String what, long got, long want) {
-        if (got != want) {
-            wrong++;
-            System.out.println(what + " answered " + got + ", due is " + want);
-        }
-    }
-
-    private static void due(String what, boolean got, boolean want) {
-        due(what, got ? 1 : 0, want ? 1 : 0);
-    }
-
-    private static void say(HealBench b, String text) {
-        for (int i = 0; i < text.length(); i++) {
-            b.type(text.charAt(i));
-        }
-    }
-
-    private static int rule(HealBench b, String text) {
-        say(b, text);
-        return b.rule();
-    }
-
-    private static int aim(HealBench b, String text) {
-        say(b, text);
-        return b.aim(2);
-    }
-
-    private static void edges(HealBench b, String pairs) {
-        for (int i = 0; i + 1 < pairs.length(); i += 2) {
-            b.edge(pairs.charAt(i) - '0', pairs.charAt(i + 1) - '0');
-        }
-    }
-
-    private static void values(HealBench b, String values) {
-        for (int a = 0; a < values.length(); a++) {
-            b.set(a, values.charAt(a) - '0');
-        }
-    }
-
-    private static HealBench bench(int k, String edges, String values, String... rules) {
-        HealBench b = new HealBench();
-        b.graph(values.length(), k);
-        edges(b, edges);
-        values(b, values);
-        for (String text : rules) {
-            due("rule " + text, rule(b, text) > 0, true);
-        }
-        return b;
-    }
-
-    private static String run(HealBench b) {
-        StringBuilder s = new StringBuilder();
-        for (int i = 0; b.bad(i) != NONE; i++) {
-            s.append(i == 0 ? "" : " ").append(b.bad(i));
-        }
-        return s.toString();
-    }
-
-    private static void dueRun(String what, HealBench b, int verdict, String run) {
-        due(what + ": search()", b.search(), verdict);
-        String got = run(b);
-        if (!got.equals(run)) {
-            wrong++;
-            System.out.println(what + ": the bad run is " + got + ", due is " + run);
-        }
-    }
-
+public final class PromiseTest extends Answers {
     private static void newObject() {
         HealBench b = new HealBench();
         int[] counts = {0, 0, 2, 0, 0, 2, 0};
@@ -404,42 +331,39 @@ public final class PromiseTest {
         guards();
     }
 
-    private static void holds(HealBench b, int a, String guard, boolean want) {
-        rule(b, guard + ">0");
-        due(guard + " for " + a + " in " + b.state(), b.enabled(a) == 1, want);
-        b.drop();
+    /** Node 4 has no neighbours; 0 has 1 and 2; 3 has 2. */
+    private static HealBench five() {
+        return bench(4, "010223", "01230");
     }
 
-    /** Node 4 has no neighbours; 0 has 1 and 2; 3 has 2. */
     private static void guards() {
-        HealBench b = bench(4, "010223", "01230");
         String[] of0 = {"x=0", "i=0", "d=2", "m=1", "M=2", "l=0", "u=1", "n=5", "k=4", "Ay<3", "Ey=2", "Ej=1&Ej=2", "Aj#0",
             "A(j=y&x<y)", "Ay=j", "!Ey=3", "E!y=1", "A!y=3", "Ei<j", "A(i=0)", "x=0|x=1&x=2", "!x=1&x=0", "!x=0|x=0",
             "!(x=0&x=1)", "!!x=0", "Ay=1|x=0", "E(y=1|y=9)&x=0", "9-1-1=7", "9-1+1=9", "1-2+1=0", "0-1<0", "0-1%=3",
             "0-9%=3", "9+9%=2", "x-1%=k-1", "k%=0", "4=k", "4%=0", "3=7%", "M-m=1", "2-x-1=1", "0<1", "1#2",
             "!A!y=2", "!E!y<3", "A(y=1|j=2)", "E(y=1&j=1)", "!x<0", "x<k-1%"};
         for (String guard : of0) {
-            holds(b, 0, guard, true);
-            holds(b, 0, "!(" + guard + ")", false);
+            dueHolds(five(), 0, guard, true);
+            dueHolds(five(), 0, "!(" + guard + ")", false);
         }
         String[] of4 = {"x=0", "i=4", "d=0", "m=k", "M=0-1", "M+1=0", "M%=3", "l=3", "u=0", "Ay#y", "A0=1", "!E0=0", "!Ey=y",
             "A(y=0&y=1)"};
         for (String guard : of4) {
-            holds(b, 4, guard, true);
-            holds(b, 4, "!(" + guard + ")", false);
+            dueHolds(five(), 4, guard, true);
+            dueHolds(five(), 4, "!(" + guard + ")", false);
         }
         String[] of3 = {"x=3", "i=3", "d=1", "m=2", "M=2", "l=2", "u=0", "Ay=2", "Ej=2", "E(y<x&j<i)", "A(x-y=1)"};
         for (String guard : of3) {
-            holds(b, 3, guard, true);
+            dueHolds(five(), 3, guard, true);
         }
         String[] notOf3 = {"x=0&x=3", "(x=3|x=0)&x=2", "x<3", "3<x", "x#3", "Ey=1", "A(y=2&x=2)", "x=7", "x-8=3", "2=x%"};
         for (String guard : notOf3) {
-            holds(b, 3, guard, false);
+            dueHolds(five(), 3, guard, false);
         }
-        b = bench(3, "", "12");
-        holds(b, 0, "l=2&u=2", true);
-        holds(b, 1, "l=1&u=1", true);
-        holds(b, 1, "m=3&3=k&n=2", true);
+        HealBench b = bench(3, "", "12");
+        dueHolds(b, 0, "l=2&u=2", true);
+        dueHolds(b, 1, "l=1&u=1", true);
+        dueHolds(b, 1, "m=3&3=k&n=2", true);
     }
 
     private static void fire() {
@@ -753,9 +677,6 @@ public final class PromiseTest {
         for (Runnable promise : promises) {
             promise.run();
         }
-        System.out.println(wrong == 0 ? "all promises are kept" : wrong + " answers are not as due");
-        if (wrong != 0) {
-            System.exit(1);
-        }
+        end();
     }
 }
