@@ -138,6 +138,26 @@ public final class EdgeTest extends Answers {
         }
     }
 
+    // 3: the edge is one for rules and guards that were there before it, and for a search after one, too
+    private static void edgeAfterSearch() {
+        HealBench b = bench(2, "", "000", "Ey=x>1-x");
+        due("goods() without edges", b.goods(), 8);
+        due("good()", b.good(), true);
+        b.edge(0, 2);
+        due("goods() with one", b.goods(), 4);
+        due("good()", b.good(), false);
+        due("worst() with one", b.worst(), 1);
+        b.edge(2, 1);
+        due("goods() with two", b.goods(), 2);
+        due("search() with two: the middle one can flip for ever", b.search(), 3);
+        b.edge(1, 0);
+        due("goods() with three", b.goods(), 0);
+        due("search() with three", b.search(), 3);
+        due("worst() with three", b.worst(), NONE);
+        aim(b, "d=2");
+        due("goods() by d", b.goods(), 8);
+    }
+
     // 4: "A character is typed: how many there are. NONE, refused, when c is not 32 .. 126"
     private static void typeable() {
         for (int c = -300; c <= 400; c++) {
@@ -318,7 +338,7 @@ public final class EdgeTest extends Answers {
         }
     }
 
-    // 9: "A node's value is another one. The value before. NONE, refused, when there is no such node or value."
+    // 9: "A node's value is another one"; "The value before. NONE, refused, when there is no such node or value."
     private static void setMatrix() {
         for (int a = -2; a <= 6; a++) {
             for (int x = -2; x <= 6; x++) {
@@ -603,6 +623,7 @@ public final class EdgeTest extends Answers {
         graphLeavesText();
         mostEdges();
         noEdge();
+        edgeAfterSearch();
         typeable();
         fullText();
         fullRules();

@@ -149,7 +149,7 @@ public final class TermsTest extends Answers {
         }
     }
 
-    // "In a STEP a CHOICE of enabled nodes move at the same time: all read the state before it."
+    // "In a STEP a CHOICE of enabled nodes, not none, move at the same time: all read the state before it."
     private static void atTheSameTime() {
         HealBench b = bench(4, "", "0123", "0=0>u");
         b.scheduler(2);

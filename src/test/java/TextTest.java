@@ -178,7 +178,7 @@ public final class TextTest extends Answers {
         }
     }
 
-    // "A part is a digit, or a letter for a number: x the node's value, i its number"
+    // "A part is a digit, or a letter for a number"; "x the node's value, i its number"
     private static void digitsAndOwn() {
         for (int digit = 0; digit <= 9; digit++) {
             dueHolds(new HealBench(), 0, digit + "=0" + "+1".repeat(digit), true);
