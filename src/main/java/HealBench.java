@@ -233,9 +233,10 @@ public final class HealBench {
 
     /** The reader keeps a row of its own, since sums read from it later. */
     private Reader takeText() {
-        Reader reader = new Reader(Arrays.copyOf(text, typed));
+        char[] taken = new char[typed];
+        System.arraycopy(text, 0, taken, 0, typed);
         typed = 0;
-        return reader;
+        return new Reader(taken);
     }
 
     private void lookAround() {

@@ -13,6 +13,24 @@ public final class OracleTest {
     /** A text that is too long is typed to its end, too. */
     private static final int LONGEST_TURN = 160;
 
+    private static final int KNOWN_RUNS = 400;
+    /** Rules that are known to mend something on some graphs: their ways to good, and bad runs, are longer. */
+    private static final String[][] KNOWN = {
+        {"i=0&x=l>x+1", "0<i&x#l>l"},
+        {"i=0&x+1%=u>x+2", "i=n-1&l=u&l+1%#x>l+1", "0<i&i<n-1&x+1%=l>l", "0<i&i<n-1&x+1%=u>u"},
+        {"Ex=y>x+1"},
+        {"E(x=y&j<i)>x+1"},
+        {"x<M>M"},
+        {"m<x>x-1"},
+        {"i=0&0<x>0", "0<i&m+1<k&x#m+1>m+1", "0<i&m+1=k&x#m>m"},
+        {"x=0&Ay=0>1", "x=1&Ey=1>0", "1<x>0"},
+        {"A(!i<j|y=k-1)&!(x=k-1&m=k-1)>x+1"},
+        {"A(!i<j|y=0)&(0<x|0<M)>x-1"},
+        {"i=0&x<k-1>x+1", "0<i&x<l>x+1"},
+        {"i=0&x<k-1&Ax=y>x+1", "0<i&x#l>x+1"},
+    };
+    private static final String[] AIMS = {"Ax=y", "Ax#y", "x=l", "x=0", "!x<M", "x=k-1|i=0", "0=1", "x<2", "Ay<x+2"};
+
     private static int wrong = 0;
     private static final Map<String, Integer> ANSWERS = new HashMap<>();
 
@@ -704,12 +722,56 @@ public final class OracleTest {
         }
     }
 
+    private void link(int shape) {
+        int n = oracle.values.length;
+        for (int a = 0; a < n; a++) {
+            for (int b = a + 1; b < n; b++) {
+                boolean line = b == a + 1;
+                boolean ring = line || a == 0 && b == n - 1;
+                boolean linked = shape == 0 ? line : shape == 1 ? ring : shape == 2 ? a == 0 : shape == 3 || dice.once(2);
+                if (linked) {
+                    due("edge(" + a + ", " + b + ")", bench.edge(a, b), oracle.edge(a, b));
+                }
+            }
+        }
+    }
+
+    private void aimAt(int kind) {
+        if (kind == 2) {
+            say(AIMS[dice.below(AIMS.length)]);
+        }
+        due("aim(" + kind + ")", bench.aim(kind), oracle.aim(kind));
+    }
+
+    private void runKnown() {
+        int n = 2 + dice.below(4);
+        int k = 2 + dice.below(3);
+        due("graph(" + n + ", " + k + ")", bench.graph(n, k), oracle.graph(n, k));
+        link(dice.below(5));
+        for (String rule : KNOWN[dice.below(KNOWN.length)]) {
+            say(rule);
+            due("rule()", bench.rule(), oracle.rule());
+        }
+        for (int turn = 0; turn < 4 && wrong == 0; turn++) {
+            aimAt(dice.below(3));
+            int scheduler = dice.below(3);
+            due("scheduler(" + scheduler + ")", bench.scheduler(scheduler), oracle.scheduler(scheduler));
+            for (int asked = 0; asked < 6; asked++) {
+                find();
+            }
+            move();
+        }
+    }
+
     public static void main(String[] args) {
         int runs = args.length > 0 ? Integer.parseInt(args[0]) : RUNS;
         for (int run = 0; run < runs && wrong == 0; run++) {
             new OracleTest(run).run();
         }
-        System.out.println(runs + " runs, " + ANSWERS);
+        for (int run = 0; run < KNOWN_RUNS && wrong == 0; run++) {
+            new OracleTest(runs + run).runKnown();
+        }
+        System.out.println(runs + " runs and " + KNOWN_RUNS + " with known rules, " + ANSWERS);
         if (wrong != 0) {
             System.exit(1);
         }
